@@ -304,7 +304,7 @@ public final class SequentKernel {
             first[count] = newFirst;
             second[count] = newSecond;
             height[count] = newHeight;
-            general[count] = newSort == VARIABLE || parts && (general[newFirst] || general[newSecond]);
+            general[count] = newSort == VARIABLE || (parts && (general[newFirst] || general[newSecond]));
             return count++;
         }
     }
@@ -395,7 +395,7 @@ public final class SequentKernel {
         /** Finds, once for each term of the store, whether x stands in it. */
         void mark(int x) {
             for (int t = 0; t < count; t++) {
-                marked[t] = t == x || hasParts(t) && (marked[first[t]] || marked[second[t]]);
+                marked[t] = t == x || (hasParts(t) && (marked[first[t]] || marked[second[t]]));
             }
         }
 
@@ -444,8 +444,8 @@ public final class SequentKernel {
             second[count] = newSecond;
             type[count] = newType;
             height[count] = newHeight;
-            anyFree[count] = newSort == VARIABLE || parts && (anyFree[newFirst] || anyFree[newSecond]);
-            general[count] = types.general[newType] || parts && (general[newFirst] || general[newSecond]);
+            anyFree[count] = newSort == VARIABLE || (parts && (anyFree[newFirst] || anyFree[newSecond]));
+            general[count] = types.general[newType] || (parts && (general[newFirst] || general[newSecond]));
             bucket[count] = home;
             older[count] = newest[home];
             newest[home] = count;
@@ -503,8 +503,13 @@ public final class SequentKernel {
             return changed(terms.first[abstraction], 0, 0);
         }
 
+        /** The whole term t with the change that has begun. */
+        int of(int t) {
+            return changed(t, 0, 0);
+        }
+
         /** Term t, which stands under so many abstractions, level parts deep, with the change. */
-        int changed(int t, int under, int level) {
+        private int changed(int t, int under, int level) {
             if (t < 0 || under > level || level >= Terms.HIGHEST) {
                 return NONE;
             }
@@ -705,8 +710,8 @@ public final class SequentKernel {
                 case 5: return assumption(termAt(a));
                 case 6: return equalTruth(factAt(a), factAt(b));
                 case 7: return equivalence(factAt(a), factAt(b));
-                case 8: return instance(factAt(a), termAt(b), termAt(c));
-                case 9: return typeInstance(factAt(a), types.numbers.placeOf(b), types.numbers.placeOf(c));
+                case 8: return instance(factAt(a), beginsWithTerm(termAt(b), termAt(c)));
+                case 9: return instance(factAt(a), beginsWithType(typeAt(b), typeAt(c)));
                 case 10: return rewriting(factAt(a), factAt(b));
                 default: return NONE;
             }
@@ -714,6 +719,10 @@ public final class SequentKernel {
 
         private int termAt(int argument) {
             return terms.numbers.placeOf(argument);
+        }
+
+        private int typeAt(int argument) {
+            return types.numbers.placeOf(argument);
         }
 
         private int factAt(int argument) {
@@ -813,28 +822,33 @@ public final class SequentKernel {
             return facts.close(terms.equation(p, q));
         }
 
-        private int instance(int fact, int x, int with) {
+        /** Begins the change of rule 8; whether there is one. */
+        private boolean beginsWithTerm(int x, int with) {
             if (terms.sortAt(x) != Terms.VARIABLE || terms.typeAt(with) != terms.type[x]) {
-                return NONE;
+                return false;
             }
             change.begin(Change.REPLACE, x, with);
-            return closeChanged(fact);
+            return true;
         }
 
-        private int typeInstance(int fact, int a, int with) {
+        /** Begins the change of rule 9; whether there is one. */
+        private boolean beginsWithType(int a, int with) {
             if (!types.isVariable(a) || with < 0) {
-                return NONE;
+                return false;
             }
             change.begin(Change.RETYPE, a, with);
-            return closeChanged(fact);
+            return true;
         }
 
         /** The fact with the change that has begun in its hypotheses and in its conclusion. */
-        private int closeChanged(int fact) {
-            for (int i = 0; i < facts.sizeOf(fact); i++) {
-                facts.assume(change.changed(facts.hypothesis(fact, i), 0, 0));
+        private int instance(int fact, boolean begun) {
+            if (!begun) {
+                return NONE;
             }
-            return facts.close(change.changed(facts.conclusionOf(fact), 0, 0));
+            for (int i = 0; i < facts.sizeOf(fact); i++) {
+                facts.assume(change.of(facts.hypothesis(fact, i)));
+            }
+            return facts.close(change.of(facts.conclusionOf(fact)));
         }
 
         private int rewriting(int factA, int factB) {
@@ -843,7 +857,7 @@ public final class SequentKernel {
                 return NONE;
             }
             change.begin(Change.REPLACE, left, rightOf(factA));
-            return closeWithBoth(factA, factB, change.changed(facts.conclusionOf(factB), 0, 0));
+            return closeWithBoth(factA, factB, change.of(facts.conclusionOf(factB)));
         }
     }
 

@@ -17,6 +17,7 @@ final class PromiseTests {
         define();
         defineRefusals();
         defineType();
+        typesAtMostThree();
         defineTypeRefusals();
         line();
         clear();
@@ -230,9 +231,8 @@ final class PromiseTests {
         int fact = identityFact(k);
         int x = k.variable(0, 0);
         int identity = k.lambda(x, x);
-        int types = k.count(1);
         k.define(k.equality(0));
-        types = k.count(1);
+        int types = k.count(1);
         Check.is("the first of two facts", k.defineType(fact), 2);
         Check.is("two facts", k.count(2), 4);
         Check.is("T, A to T, T to A, and those of the equality of T", k.count(1), types + 5);
@@ -258,9 +258,23 @@ final class PromiseTests {
         Check.is("a second type", k.defineType(fact), 4);
         int otherV = k.part(k.conclusion(4), 1);
         Check.yes("it is another one", k.typeOf(otherV) != fresh);
-        Check.is("a third type", k.defineType(fact), 6);
-        counts("no fourth type", k, k.count(0), k.count(1), 8);
+        Check.is("its up is the next constant", k.part(k.part(k.part(k.part(k.conclusion(4), 0), 1), 0), 0), 3);
+    }
+
+    /** The constants would be enough for a fourth type. */
+    private static void typesAtMostThree() {
+        SequentKernel k = new SequentKernel();
+        int fact = identityFact(k);
+        for (int i = 0; i < 3; i++) {
+            Check.is("type " + i, k.defineType(fact), 1 + 2 * i);
+        }
+        int terms = k.count(0);
+        int types = k.count(1);
         Check.is("no fourth type", k.defineType(fact), -1);
+        counts("no fourth type", k, terms, types, 7);
+        Check.is("constant 6 is still there", k.define(k.equality(0)), 7);
+        Check.is("constant 7, too", k.define(k.equality(0)), 8);
+        Check.is("no ninth", k.define(k.equality(0)), -1);
     }
 
     private static void defineTypeRefusals() {
@@ -359,6 +373,7 @@ final class PromiseTests {
         Check.is("facts after that", k.count(2), 9);
         Check.is("line 3 again", k.conclusion(8), k.conclusion(4));
         Check.is("its hypotheses", k.hypotheses(8), 0);
+        Check.is("rule() knows no lines, after a replay either", k.rule(7, -1, -1, 0), -1);
     }
 
     private static void replayTakesAllBack() {

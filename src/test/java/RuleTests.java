@@ -196,6 +196,7 @@ final class RuleTests {
         int open = k.lambda(z, equation(y, z));
         is("nothing is taken in by an abstraction", k.rule(8, under, x, y), 0, equation(open, open));
         refused("another type", 8, base, x, ind);
+        refused("another type, where z stands nowhere", 8, base, z, ind);
         refused("no variable", 8, base, fx, x);
         refused("no term", 8, base, x, 9999);
         refused("no variable at all", 8, base, -1, x);
