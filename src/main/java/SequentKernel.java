@@ -185,7 +185,6 @@ public final class SequentKernel {
         int downAgain = terms.equation(terms.application(down, terms.application(up, w)), w);
         facts.open();
         int made = facts.close(upAgain);
-        facts.open();
         int second = facts.close(terms.equation(terms.application(predicate, w), downAgain));
         return second < 0 ? NONE : made;
     }

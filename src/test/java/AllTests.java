@@ -8,6 +8,11 @@ public final class AllTests {
         PromiseTests.all();
         RuleTests.all();
         LimitTests.all();
+        EdgeTests.all();
+        ArgumentTests.all();
+        HypothesisTests.all();
+        HeightTests.all();
+        RefusalTests.all();
         ModelTests.all();
         if (!Check.close()) {
             System.exit(1);

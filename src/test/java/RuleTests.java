@@ -26,6 +26,7 @@ final class RuleTests {
         new RuleTests().equivalence();
         new RuleTests().instance();
         new RuleTests().typeInstance();
+        new RuleTests().typeInstanceByBool();
         new RuleTests().typeInstanceRefusals();
         new RuleTests().rewriting();
         new RuleTests().rewritingIsOutermostFirst();
@@ -228,6 +229,22 @@ final class RuleTests {
         int ofNested = k.variable(0, nested);
         is("a becomes (a to a), once", wide, 0, equation(ofNested, ofNested));
         is("no a in it", k.rule(9, assumed(x), a, 1), 1, x);
+    }
+
+    /** BOOL has the least number that a type has. */
+    private void typeInstanceByBool() {
+        int a = k.typeVariable(0);
+        int ofA = k.variable(0, a);
+        is("a becomes BOOL", k.rule(9, k.rule(0, ofA, 0, 0), a, 0), 0, equation(x, x));
+        int toInd = k.variable(5, k.arrow(a, 1));
+        int toInd2 = k.variable(5, k.arrow(0, 1));
+        is("in the first part of an arrow", k.rule(9, k.rule(0, toInd, 0, 0), a, 0), 0, equation(toInd2, toInd2));
+        int fromInd = k.variable(5, k.arrow(1, a));
+        int fromInd2 = k.variable(5, k.arrow(1, 0));
+        is("in the second", k.rule(9, k.rule(0, fromInd, 0, 0), a, 0), 0, equation(fromInd2, fromInd2));
+        int identity = k.lambda(x, x);
+        is("in an abstraction", k.rule(9, k.rule(0, k.lambda(ofA, ofA), 0, 0), a, 0), 0, equation(identity, identity));
+        is("a becomes a", k.rule(9, k.rule(0, ofA, 0, 0), a, a), 0, equation(ofA, ofA));
     }
 
     private void typeInstanceRefusals() {
