@@ -32,6 +32,7 @@ final class ArgumentTests {
         noSuchRule();
         noEquations(false);
         noEquations(true);
+        nothingToReplace();
         numbersNotYetGiven();
     }
 
@@ -223,6 +224,36 @@ final class ArgumentTests {
         twin.made("rule 3 of an equation", k -> k.rule(3, ind, equation, 0));
         twin.made("rule 6 of an equation", k -> k.rule(6, equation, plain, 0));
         twin.made("rule 10 of an equation", k -> k.rule(10, equation, once, 0));
+    }
+
+    /** "(Each rule makes a new one, also if there is one like it.)", but its arguments are looked at all the same. */
+    private static void nothingToReplace() {
+        Twin twin = new Twin();
+        int q = twin.both(Sample::q);
+        int fact = twin.both(k -> Sample.assumed(k, Sample.p(k)));
+        int ofInd = twin.both(k -> k.variable(0, 1));
+        int a = twin.both(k -> k.typeVariable(0));
+        int same = twin.both(k -> k.rule(0, q, 0, 0));
+        twin.refused("rule 8, c of another type", k -> k.rule(8, fact, q, ofInd));
+        twin.refused("rule 8, c no term", k -> k.rule(8, fact, q, -1));
+        twin.refused("rule 8, c the next number", k -> k.rule(8, fact, q, k.count(3)));
+        twin.refused("rule 9, c no type", k -> k.rule(9, fact, a, -1));
+        twin.refused("rule 9, c the next number", k -> k.rule(9, fact, a, k.count(4)));
+        twin.refused("rule 9, b no type variable", k -> k.rule(9, fact, 1, 1));
+        twin.refused("rule 10, no equation", k -> k.rule(10, fact, same, 0));
+        int next = twin.both(k -> k.count(2));
+        Check.is("rule 8", twin.both(k -> k.rule(8, fact, q, q)), next);
+        Check.is("rule 9", twin.both(k -> k.rule(9, fact, a, 1)), next + 1);
+        Check.is("rule 10", twin.both(k -> k.rule(10, same, fact, 0)), next + 2);
+        for (int i = 0; i < 3; i++) {
+            int made = next + i;
+            Check.is("as it was", twin.both(k -> k.conclusion(made)), twin.both(k -> k.conclusion(fact)));
+            Check.is("under what it was", twin.both(k -> k.hypotheses(made)), 1);
+        }
+        int again = twin.made("rule 0 again", k -> k.rule(0, q, 0, 0));
+        Check.is("a new fact like one that is there", again, next + 3);
+        Check.is("with the same conclusion", twin.both(k -> k.conclusion(again)), twin.both(k -> k.conclusion(same)));
+        twin.alike("nothing to replace");
     }
 
     /** "it is known by that number from then on": what is in a store without a number is not known by the next one. */

@@ -31,6 +31,7 @@ final class HeightTests {
         byLines();
         noHigherThanBefore();
         deepestBounds();
+        deepestTypeVariables();
     }
 
     private static void termsByCalls() {
@@ -283,5 +284,45 @@ final class HeightTests {
         Check.is("opened with a term of height 4", k.part(k.conclusion(openedHigh), 1), deep(k, high));
         Check.no("p is bound", k.free(p(k), overP));
         Check.yes("p is free in what is put in", k.free(p(k), k.conclusion(openedHigh)));
+    }
+
+    /** Rule 9 where the type variable stands as deep as it can in a type of height 10, at either side. */
+    private static void deepestTypeVariables() {
+        SequentKernel k = new SequentKernel();
+        int a = k.typeVariable(0);
+        int right = k.rule(5, atTheRight(k, a), 0, 0);
+        Check.is("at the right", k.conclusion(k.rule(9, right, a, 0)), atTheRight(k, 0));
+        int left = k.rule(5, atTheLeft(k, a), 0, 0);
+        Check.is("at the left", k.conclusion(k.rule(9, left, a, 0)), atTheLeft(k, 0));
+        int terms = k.count(0);
+        int types = k.count(1);
+        int facts = k.count(2);
+        Check.is("11 at the right", k.rule(9, right, a, k.arrow(0, 1)), -1);
+        Check.is("11 at the left", k.rule(9, left, a, k.arrow(0, 1)), -1);
+        Check.is("terms", k.count(0), terms);
+        Check.is("the arrow alone is new", k.count(1), types + 1);
+        Check.is("facts", k.count(2), facts);
+    }
+
+    /** BOOL to (BOOL to .. (the type to BOOL)), of height 10, with all its arguments. */
+    private static int atTheRight(SequentKernel k, int deepest) {
+        int type = k.arrow(deepest, 0);
+        for (int h = 3; h <= 10; h++) {
+            type = k.arrow(0, type);
+        }
+        int t = k.variable(5, type);
+        for (int h = 3; h <= 10; h++) {
+            t = k.apply(t, p(k));
+        }
+        return k.apply(t, k.variable(5, deepest));
+    }
+
+    /** ((the type to BOOL) to BOOL) .. to BOOL, of height 10, with its argument. */
+    private static int atTheLeft(SequentKernel k, int deepest) {
+        int from = deepest;
+        for (int h = 2; h <= 9; h++) {
+            from = k.arrow(from, 0);
+        }
+        return k.apply(k.variable(5, k.arrow(from, 0)), k.variable(5, from));
     }
 }

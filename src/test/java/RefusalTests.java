@@ -28,6 +28,8 @@ final class RefusalTests {
         traceAgainAndAgain();
         questions();
         sortsAreApart();
+        typeSortsAreApart(false);
+        typeSortsAreApart(true);
         lastOf512Calls();
     }
 
@@ -422,6 +424,31 @@ final class RefusalTests {
         Check.yes("the abstraction over p of it is no identity", k.lambda(p, constant) != identity);
         int ofInd = k.variable(0, 1);
         Check.yes("nor is that of IND", k.lambda(ofInd, ofInd) != identity);
+    }
+
+    /** Type variable 0 and the first defined type are two, whichever is there first. */
+    private static void typeSortsAreApart(boolean variableFirst) {
+        Twin twin = new Twin();
+        if (variableFirst) {
+            twin.both(k -> k.typeVariable(0));
+        }
+        int fact = twin.both(RefusalTests::identityFact);
+        int types = twin.both(k -> k.count(1));
+        int first = twin.made("a type", k -> k.defineType(fact));
+        Check.is("T, its arrows, and those of its equality and of that of BOOL",
+                twin.both(k -> k.count(1)), types + 6);
+        int v = twin.both(k -> k.part(k.conclusion(first), 1));
+        int defined = twin.both(k -> k.typeOf(v));
+        Check.no("type variable 0", twin.both(k -> k.typeVariable(0)) == defined);
+        twin.refused("T is no type variable", k -> k.rule(9, first, defined, 1));
+        int kept = twin.made("T stays", k -> k.rule(9, first, k.typeVariable(0), 1));
+        Check.is("T stays", twin.both(k -> k.conclusion(kept)), twin.both(k -> k.conclusion(first)));
+        int overT = twin.both(k -> k.lambda(v, v));
+        twin.made("no type variable is in a term over T", k -> k.define(overT));
+        int second = twin.made("a type from T", k -> k.defineType(k.rule(0, overT, 0, 0)));
+        int other = twin.both(k -> k.typeOf(k.part(k.conclusion(second), 1)));
+        Check.no("another one", other == defined);
+        twin.alike("sorts of types");
     }
 
     /** "An object is used for at most 512 calls": up to the last one every answer is due. */
