@@ -571,12 +571,17 @@ public final class SequentKernel {
             if (typeMemory[a] >> PLACE_BITS == turn) {
                 return typeMemory[a] & PLACE_MASK;
             }
-            int from = retyped(types.first[a], level + 1);
-            int made = from < 0 ? NONE : types.store(Types.ARROW, from, retyped(types.second[a], level + 1));
+            int made = retypedParts(a, level + 1);
             if (made >= 0) {
                 typeMemory[a] = turn << PLACE_BITS | made;
             }
             return made;
+        }
+
+        /** The arrow a made anew from its parts, which are level parts deep. */
+        private int retypedParts(int a, int level) {
+            int from = retyped(types.first[a], level);
+            return from < 0 ? NONE : types.store(Types.ARROW, from, retyped(types.second[a], level));
         }
     }
 

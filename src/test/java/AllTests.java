@@ -5,6 +5,8 @@ public final class AllTests {
 
     public static void main(String[] args) throws Exception {
         FaceTests.all();
+        LanguageTests.all();
+        ReadmeTests.all();
         PromiseTests.all();
         RuleTests.all();
         LimitTests.all();

@@ -65,10 +65,6 @@ final class FaceTests {
         for (Class<?> inside : SequentKernel.class.getDeclaredClasses()) {
             Check.yes(inside + " is static", Modifier.isStatic(inside.getModifiers()));
             Check.no(inside + " is public", Modifier.isPublic(inside.getModifiers()));
-            for (Field f : inside.getDeclaredFields()) {
-                Check.yes(f + " is final, if static",
-                        !Modifier.isStatic(f.getModifiers()) || Modifier.isFinal(f.getModifiers()));
-            }
         }
     }
 }
